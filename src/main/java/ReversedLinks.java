@@ -20,7 +20,8 @@ public final class ReversedLinks {
     private static final int[] UNDER = {-1, ATOM, ATOM, ATOM, BOX, ROW, PAIR};
 
     private static final int STEPS_AT_ONCE = 99, STEPS_AHEAD = 400, STEPS_SEEN = 40;
-    // A marking takes a step for each field and at most two for each cell and one for each root: far fewer than this.
+    // A marking takes a step for each field, at most two for each cell, one for each root and one to be over:
+    // far fewer than this.
     private static final int STEPS_ENOUGH = 1000;
 
     private static final int SIGNS = 100, LAST_SIGN = 127, OPEN = 6;
@@ -449,8 +450,7 @@ public final class ReversedLinks {
             return CAST;
         }
         for (int cell = 0; cell < now.graph.came; cell++) {
-            // cells are few, so a place that is found in the row can't run over
-            if (i < 0 || i >= ITEMS || !tapes.isPlace(tape, i + cell)) {
+            if (!tapes.isPlace(tape, i + cell)) {
                 return 100 + cell;
             }
             if (tapes.itemAt(tape, i + cell) != asNumber(has(now.marking.marked, cell))) {
@@ -670,7 +670,7 @@ public final class ReversedLinks {
         return cell >= 0 && cell < CELLS && (bits >> cell & 1) != 0;
     }
 
-    /** The first cell of some; some are given. */
+    /** The lowest cell among bits of which at least one is set. */
     private static int firstOf(int bits) {
         return Integer.bitCount((bits & -bits) - 1);
     }
@@ -789,7 +789,6 @@ public final class ReversedLinks {
             layouts[cell] = layout;
             tags[cell] = tag;
             there |= bit(cell);
-            pinned &= ~bit(cell);
             sizes[cell] = 0;
             for (int i = 0; i < fields; i++) {
                 widen(cell);
@@ -1246,7 +1245,6 @@ public final class ReversedLinks {
          */
         int readInto(Graph graph, int before) {
             made = 0;
-            outermost = EMPTY;
             depth = 0;
             isWanting = true;
             for (int place = 0; place < length && place < SIGNS; place++) {
@@ -1261,7 +1259,7 @@ public final class ReversedLinks {
             if (!isWanting) {
                 return goOn(sign);
             }
-            if (sign == ']' && depth > 0 && openLayouts[depth - 1] == ROW && filled[depth - 1] == 0) {
+            if (sign == ']' && isRowJustOpened()) {
                 return close();
             }
             if (sign == '(' || sign == '[' || sign == '<') {
@@ -1326,6 +1324,10 @@ public final class ReversedLinks {
                 default:
                     return sign == '>' && close();
             }
+        }
+
+        private boolean isRowJustOpened() {
+            return depth > 0 && depth <= OPEN && openLayouts[depth - 1] == ROW && filled[depth - 1] == 0;
         }
 
         private boolean wantMore() {

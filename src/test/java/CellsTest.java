@@ -20,7 +20,10 @@ final class CellsTest extends Due {
         for (int what = 0; what < 5; what++) {
             is(0, x.count(what), "1: count(" + what + ")");
         }
-        is(0, x.told(13), "1: cells there");
+        for (int what = 0; what < 15; what++) {
+            is(what == 1 || what == 2 ? -5 : 0, x.told(what), "1: told(" + what + ")");
+        }
+        is(-3, x.sweep(), "1: not clean");
         for (int what = 15; what < 19; what++) {
             is(-5, x.told(what), "1: root");
         }

@@ -96,7 +96,7 @@ final class ImageTapesTest extends Due {
         x.pin(2, true);
         x.see(-1, 0, true);
         x.see(2, 2, false);
-        x.see(2, 2, false);
+        x.see(0, 1, false);
         x.plan(-1, 0);
         x.book(0, 1, 2);
         x.begin(0);
@@ -152,9 +152,14 @@ final class ImageTapesTest extends Due {
         }
         is(raw, x.raw(2, 0), "31: turned again");
         x.begin(3);
+        finish(x);
+        x.begin(0);
         x.leave();
         x.undo();
-        is(1, x.told(0), "31: it runs again");
+        for (int what = 0; what < 19; what++) {
+            is(told[what], x.told(what), "31: told " + what + ", once more");
+        }
+        is(raw, x.raw(2, 0), "31: turned once more");
         finish(x);
         is(1, x.told(14), "31: over");
         is(6, x.image(), "30: clean");

@@ -180,6 +180,9 @@ final class MarkingTest extends Due {
         }
         is(-3, x.sweep(), "14: not clean");
         is(1, x.hold(0, 0, -1), "14: none runs");
+        x.begin(0);
+        is(0, x.told(9), "12: none is later");
+        is(0, x.told(12), "12: no stack");
     }
 
     static void clean() {

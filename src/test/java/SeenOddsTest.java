@@ -173,6 +173,10 @@ final class SeenOddsTest extends Due {
         is(3, x.mean(1), "24: two of three");
         x.root(1, 1);
         is(1, x.mean(0), "24: one of three");
+        x.hold(2, 0, 0);
+        x.root(0, 2);
+        is(1, x.mean(0), "24: one of three, the first being the far one");
+        is(3, x.mean(1), "24: one of three, the first being the far one");
         x.root(0, 1);
         is(0, x.mean(0), "24: none of one");
         is(1, x.mean(1), "24: none of one");
