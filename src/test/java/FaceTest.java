@@ -102,6 +102,12 @@ final class FaceTest extends Due {
         is(1, constants.equals(Set.of("int NONE", "int BAD", "int STATE", "int FULL", "long NO")) ? 1 : 0, "constants " + constants);
         for (Class<?> inside : face.getDeclaredClasses()) {
             is(1, Modifier.isStatic(inside.getModifiers()) && !Modifier.isPublic(inside.getModifiers()) ? 1 : 0, "inside: " + inside);
+            for (Method m : inside.getDeclaredMethods()) {
+                boolean isPrivate = Modifier.isPrivate(m.getModifiers());
+                is(0, isPrivate && names.contains(m.getName()) ? 1 : 0, "a private method inside named " + m.getName());
+                is(1, m.getParameterCount() <= 7 ? 1 : 0, "parameters of " + m.getName());
+            }
+            is(1, inside.getDeclaredFields().length <= 20 ? 1 : 0, "fields of " + inside);
         }
     }
 
@@ -117,5 +123,12 @@ final class FaceTest extends Due {
             is(1, imports.group(1).equals("java.util.Arrays") ? 1 : 0, "import " + imports.group(1));
         }
         is(0, code.contains("package ") ? 1 : 0, "a package line");
+        Matcher methods = Pattern.compile("(?m)^( {4}| {8})(?:\\w[\\w\\[\\] ]* )?\\w+\\([^)]*\\) \\{\\n((?:\\1 .*\\n|\\n)*)\\1}").matcher(code);
+        int found = 0;
+        while (methods.find()) {
+            found++;
+            is(1, methods.group(2).split("\n").length <= 60 ? 1 : 0, "a long method: " + methods.group().split("\n")[0].strip());
+        }
+        is(1, found > 100 ? 1 : 0, "methods that were found: " + found);
     }
 }
