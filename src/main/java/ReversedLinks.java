@@ -782,7 +782,7 @@ public final class ReversedLinks {
 
         /** A new cell's number, or EMPTY if there is no room for it. */
         int add(int layout, int tag, int fields) {
-            if (came >= CELLS) {
+            if (came < 0 || came >= CELLS) {
                 return EMPTY;
             }
             int cell = came++;
@@ -1025,7 +1025,7 @@ public final class ReversedLinks {
         }
 
         private void goDown(int cell) {
-            if (depth < CELLS) {
+            if (depth >= 0 && depth < CELLS) {
                 way[depth] = at;
                 depth++;
             }

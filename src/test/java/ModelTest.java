@@ -1,6 +1,9 @@
 import java.util.Random;
 
-/** All promises: long runs of calls, made up by fixed seeds, on ReversedLinks and on Model, answer by answer. */
+/**
+ * All promises: long runs of calls, made up by fixed seeds, on ReversedLinks and on Model, answer by answer. Two
+ * objects are used at once, call by call: neither may know of the other.
+ */
 final class ModelTest extends Due {
     private static final int RUNS = 400;
     private static final int CALLS = 512;
@@ -10,32 +13,41 @@ final class ModelTest extends Due {
     private final ReversedLinks x = new ReversedLinks();
     private final Model m = new Model();
     private final String name;
+    private final int style;
     private int cells = 0;
 
     private ModelTest(int seed) {
         random = new Random(seed);
         name = "run " + seed + ": ";
+        style = random.nextInt(4);
     }
 
     public static void main(String[] args) {
-        for (int seed = 0; seed < RUNS; seed++) {
-            new ModelTest(seed).run();
+        for (int seed = 0; seed < RUNS; seed += 2) {
+            ModelTest one = new ModelTest(seed);
+            ModelTest other = new ModelTest(seed + 1);
+            for (int k = 0; k < CALLS; k++) {
+                one.goOn(k);
+                other.goOn(k);
+            }
+            one.finish();
+            other.finish();
         }
         end();
     }
 
-    private void run() {
-        int style = random.nextInt(4);
-        for (int k = 0; k < CALLS; k++) {
-            if (k < 90 && style != 0) {
-                makeUp(style);
-            } else {
-                call();
-            }
-            if (k % 60 == 0) {
-                lookAtAll();
-            }
+    private void goOn(int k) {
+        if (k < 90 && style != 0) {
+            makeUp(style);
+        } else {
+            call();
         }
+        if (k % 60 == 0) {
+            lookAtAll();
+        }
+    }
+
+    private void finish() {
         lookAtAll();
         extremes();
         lookAtAll();
@@ -178,7 +190,7 @@ final class ModelTest extends Due {
         same("step(" + n + ")", x.step(n), m.step(n));
     }
 
-    private void finish() {
+    private void stepToTheEnd() {
         same("step(99)", x.step(99), m.step(99));
         same("step(99)", x.step(99), m.step(99));
     }
@@ -202,11 +214,11 @@ final class ModelTest extends Due {
         } else if (k < 22) {
             step();
         } else if (k < 24) {
-            finish();
+            stepToTheEnd();
         } else if (k < 25) {
             same("leave()", x.leave(), m.leave());
         } else if (k < 27) {
-            finish();
+            stepToTheEnd();
             same("sweep()", x.sweep(), m.sweep());
         } else {
             pin();
